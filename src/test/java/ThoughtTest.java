@@ -189,7 +189,7 @@ public final class ThoughtTest {
         bag.zip(0);
         due.is("25 THE POCKET counts", bag.odds(4, 0) * 100 + bag.odds(4, 1), 7 * 100 + 15);
         bag.leave(6);
-        due.is("25 OUT doesn't", bag.odds(4, 0) * 100 + bag.odds(4, 1), 3 * 100 + 7);
+        due.is("25 OUT doesn't", bag.odds(4, 0) * 100 + bag.odds(4, 1), 103);
         Due.text(bag, 1, "n=3");
         due.is("25 USED by a TEXT", bag.odds(7, 0) * 100 + bag.odds(7, 1), 101);
         due.is("25 not within 6", bag.odds(6, 0) * 100 + bag.odds(6, 1), 1);
