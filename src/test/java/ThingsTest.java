@@ -112,6 +112,12 @@ public final class ThingsTest {
         due.is("4 SIZE stays", bag.thingIs(1, 3), 5);
         due.is("4 place stays", bag.thingIs(1, 4), 5);
         due.is("4 of PHONE", bag.become(1, 0), 6);
+        for (int kind = 0; kind < 7; kind++) {
+            bag.become(1, 10 * kind);
+            due.is("4 KIND " + kind, bag.thingIs(1, 0), kind);
+            due.is("4 with m 0", bag.thingIs(1, 1), 0);
+        }
+        bag.become(1, 0);
         due.is("4 km -1", bag.become(1, -1), Due.BEYOND);
         due.is("4 km 70", bag.become(1, 70), Due.BEYOND);
         due.is("4 thing 7", bag.become(7, 0), Due.BEYOND);

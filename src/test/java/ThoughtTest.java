@@ -7,6 +7,7 @@ public final class ThoughtTest {
         thoughtGoesBeyond();
         settles();
         pack();
+        packThen();
         packByUses();
         out();
         odds();
@@ -117,6 +118,25 @@ public final class ThoughtTest {
         due.is("23 its last", many.pack(0, 5), 1);
     }
 
+    private static void packThen() {
+        BagBottom bag = Due.plain(0, 1, 2);
+        Due.text(bag, 1, "(n=1)*9");
+        due.is("23 on top now", bag.pack(0, -1), 9);
+        due.is("23 on top behind one", bag.pack(1, -1), 9);
+        due.is("23 the first such row", bag.pack(1, 0) * 100 + bag.pack(1, 1) * 10 + bag.pack(1, 2), 120);
+        due.is("23 in the middle behind two", bag.pack(2, -1), 27);
+        Due.text(bag, 1, "(n=2)*9");
+        due.is("23 the heaviest now", bag.pack(0, -1), 9);
+        due.is("23 the heaviest behind one", bag.pack(1, -1), 54);
+        BagBottom ring = new BagBottom();
+        ring.thing(0, 10, 1);
+        ring.thing(47, 10, 1);
+        due.is("23 a RING falls at even STEPS", ring.pack(1, -1), 14);
+        ring.walks(1);
+        due.is("23 and comes up at odd ones", ring.pack(1, -1), 0);
+        due.is("23 and falls again", ring.pack(2, -1), 14);
+    }
+
     private static void packByUses() {
         BagBottom bag = Due.plain(0, 0, 0);
         Due.text(bag, 1, "1");
@@ -167,6 +187,12 @@ public final class ThoughtTest {
         ten.takes(0, 1);
         ten.takes(8, 1);
         due.is("24 one on top of it", ten.out(0, 2, 1), 256);
+        BagBottom three = Due.plain(0, 0, 0);
+        three.takes(0, 1);
+        due.order("24 three", three, "021");
+        due.is("24 two go", three.out(1, 1, 1), 5);
+        due.is("24 one goes", three.out(1, 3, 1), 1);
+        due.is("24 none go for the top", three.out(0, 1, 1), 0);
         Due.text(ten, 0, "d*9");
         due.is("24 a set that leaves more out is no better", ten.out(0, 9, 0), 0);
     }

@@ -192,6 +192,17 @@ public final class TimeTest {
         due.is("19 nothing drawn", late.count(8), 1);
         due.is("19 BEYOND ahead of STATE", late.loose(21), Due.BEYOND);
         due.is("19 9940 and 57", late.loose(19) >= 0 ? 1 : 0, 1);
+
+        BagBottom full = Due.plain(1, 2);
+        for (int i = 0; i < 99; i++) {
+            full.walks(100);
+        }
+        full.walks(39);
+        due.is("19 9939 and 60", full.loose(20) >= 0 ? 1 : 0, 1);
+
+        BagBottom one = Due.plain(0);
+        due.is("19 one THING", one.loose(1), 1);
+        due.is("19 two draws", one.count(8), z * 1103515245 + 12345);
     }
 
     private static void seed() {
