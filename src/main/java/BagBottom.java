@@ -13,7 +13,7 @@ public final class BagBottom {
     private static final int IN_POCKET = -1;
     private static final int IS_OUT = -2;
 
-    private static final int THINGS_MOST = 10;
+    private static final int THINGS_MOST = 9;
     private static final int STEPS_MOST = 9999;
     private static final int SECONDS_MOST = 99999;
     private static final int WEIGHT_MOST = 99;

@@ -76,7 +76,7 @@ final class Model {
         if (!within(km, 0, 69) || !within(weight, 0, 99) || !within(size, 1, 9)) {
             return error(Due.BEYOND);
         }
-        if (w.items.size() == 10) {
+        if (w.items.size() == 9) {
             return error(Due.FULL);
         }
         w.items.add(new Item(km / 10, km % 10, weight, size));

@@ -48,13 +48,13 @@ public final class ThingsTest {
         due.is("2 least", bag.thing(0, 0, 1), 0);
         due.is("2 most", bag.thing(69, 99, 9), 1);
         due.order("2 on top", bag, "10");
-        for (int i = 2; i < 10; i++) {
+        for (int i = 2; i < 9; i++) {
             due.is("2 thing " + i, bag.thing(i, i, 1), i);
         }
-        due.is("2 an eleventh", bag.thing(0, 0, 1), Due.FULL);
+        due.is("2 a tenth", bag.thing(0, 0, 1), Due.FULL);
         due.is("2 BEYOND ahead of FULL", bag.thing(70, 0, 1), Due.BEYOND);
-        due.is("2 ten", bag.count(0), 10);
-        due.order("2 all", bag, "9876543210");
+        due.is("2 nine", bag.count(0), 9);
+        due.order("2 all", bag, "876543210");
         bag.leave(4);
         due.is("2 FULL with one OUT", bag.thing(0, 0, 1), Due.FULL);
     }

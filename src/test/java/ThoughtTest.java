@@ -75,8 +75,8 @@ public final class ThoughtTest {
         later.walks(1);
         due.order("22 the RING is below", later, "01");
         due.is("22 it comes up first", later.settles(), Due.NONE);
-        BagBottom ten = Due.plain(0, 1, 2, 3, 4, 5, 6, 7, 8, 9);
-        due.is("22 ten", ten.settles(), 9);
+        BagBottom nine = Due.plain(0, 1, 2, 3, 4, 5, 6, 7, 8);
+        due.is("22 nine", nine.settles(), 8);
     }
 
     private static void pack() {
@@ -181,20 +181,20 @@ public final class ThoughtTest {
         due.is("24 what is IN alone goes", bag.out(0, 4, 1), 30);
         Due.text(bag, 0, "20-d*20");
         due.is("24 with fewer above it takes longer", bag.out(4, 19, 0), Due.NONE);
-        BagBottom ten = Due.plain(0, 0, 0, 0, 0, 0, 0, 0, 0, 0);
-        due.is("24 nine others", ten.out(0, 1, 1), 1022);
-        ten.takes(9, 1);
-        ten.takes(0, 1);
-        ten.takes(8, 1);
-        due.is("24 one on top of it", ten.out(0, 2, 1), 256);
+        BagBottom nine = Due.plain(0, 0, 0, 0, 0, 0, 0, 0, 0);
+        due.is("24 eight others", nine.out(0, 1, 1), 510);
+        nine.takes(8, 1);
+        nine.takes(0, 1);
+        nine.takes(7, 1);
+        due.is("24 one on top of it", nine.out(0, 2, 1), 128);
         BagBottom three = Due.plain(0, 0, 0);
         three.takes(0, 1);
         due.order("24 three", three, "021");
         due.is("24 two go", three.out(1, 1, 1), 5);
         due.is("24 one goes", three.out(1, 3, 1), 1);
         due.is("24 none go for the top", three.out(0, 1, 1), 0);
-        Due.text(ten, 0, "d*9");
-        due.is("24 a set that leaves more out is no better", ten.out(0, 9, 0), 0);
+        Due.text(nine, 0, "d*9");
+        due.is("24 a set that leaves more out is no better", nine.out(0, 9, 0), 0);
     }
 
     private static void odds() {
@@ -250,9 +250,9 @@ public final class ThoughtTest {
         due.is("26 none of three", bag.fits(3), Due.NONE);
         due.is("26 none of none", emptyFits(), 0);
 
-        BagBottom ten = Due.plain(0, 1, 2, 3, 4, 5, 6, 7, 8, 9);
-        Due.sheet(ten, 0, 8, 0, 1, 2, 3, 4, 5, 6, 7, 8, 9);
-        due.is("26 behind nine", ten.fits(0), 9);
+        BagBottom nine = Due.plain(0, 1, 2, 3, 4, 5, 6, 7, 8);
+        Due.sheet(nine, 0, 8, 0, 1, 2, 3, 4, 5, 6, 7, 8);
+        due.is("26 behind eight", nine.fits(0), 8);
     }
 
     private static int emptyFits() {
