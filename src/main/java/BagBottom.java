@@ -1179,23 +1179,18 @@ public final class BagBottom {
 
         final Row trace = new Row(TRACE_MOST);
         boolean parted;
-        private final Row begun = new Row(TRACE_MOST);
         private int number;
         private int kind;
         private int m;
 
-        /** THE TRACE becomes this one's only if it isn't PARTED, as an ERROR changes nothing. */
+        /** THE TRACE is this one's even if it is PARTED: its BODIES began, up to the one that parted. */
         int answer(int thingNumber, Thing thing, int voice, int x) {
             number = thingNumber;
             kind = thing.kind;
             m = thing.m;
             parted = false;
-            begun.length = 0;
-            int answer = speak(voice, kind, x, 0);
-            if (!parted) {
-                trace.copy(begun);
-            }
-            return answer;
+            trace.length = 0;
+            return speak(voice, kind, x, 0);
         }
 
         private static int bodyFrom(int voice, int from) {
@@ -1215,7 +1210,7 @@ public final class BagBottom {
             if (depth > DEEPEST || parted || body == 0) {
                 return 0;
             }
-            begun.add(body);
+            trace.add(body);
             int above = KIND_ABOVE[body / 10 - 1];
             int deeper = depth + 1;
             switch (body) {

@@ -615,13 +615,11 @@ final class Model {
         if (!known(thing) || !within(voice, 0, 3)) {
             return error(Due.BEYOND);
         }
-        List<Integer> before = trace;
         trace = new ArrayList<>();
         try {
             Kind kind = kindOf(w.items.get(thing).kind, thing, w.items.get(thing).m);
             return voice == 0 ? kind.rattles(x) : voice == 1 ? kind.rustles(x) : voice == 2 ? kind.rings(x) : kind.parts(x);
         } catch (Parted parted) {
-            trace = before;
             return error(Due.PARTED);
         }
     }

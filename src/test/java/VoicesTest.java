@@ -66,11 +66,15 @@ public final class VoicesTest {
         BagBottom bag = second(kind, m);
         String call = "voice " + voice + " of KIND " + kind;
         due.is("27 " + call, bag.voice(2, voice, x), want);
+        traced(call, bag, trace);
+    }
+
+    private static void traced(String call, BagBottom bag, int... trace) {
         due.is("28 BODIES of " + call, bag.count(7), trace.length);
         for (int i = 0; i < trace.length; i++) {
             due.is("28 body(" + i + ") of " + call, bag.body(i), trace[i]);
         }
-        due.is("28 none behind", bag.body(trace.length), Due.NONE);
+        due.is("28 none behind, " + call, bag.body(trace.length), Due.NONE);
     }
 
     /** k is the number of the THING, not its KIND or its place. */
@@ -89,22 +93,27 @@ public final class VoicesTest {
 
     private static void parts() {
         BagBottom bag = second(0, 2);
-        bag.voice(2, 1, 0);
+        bag.voice(2, 2, 0);
         due.is("27 PARTED", bag.voice(2, 3, X), Due.PARTED);
         due.is("27 told", bag.told(6), 1);
-        due.is("28 an ERROR leaves THE TRACE", bag.count(7), 2);
-        due.is("28 as it was", bag.body(0), 11);
+        traced("PARTED", bag, 13);
         bag.become(2, 12);
         due.is("27 KEYS PARTED: no more than that", bag.voice(2, 3, X), Due.PARTED);
+        traced("KEYS PARTED: what stands right doesn't begin", bag, 21, 13);
         bag.become(2, 42);
         due.is("27 a RING PARTED", bag.voice(2, 3, X), Due.PARTED);
+        traced("a RING PARTED", bag, 21, 13);
         due.is("27 told three", bag.told(6), 3);
+        bag.voice(2, 4, X);
+        bag.voice(3, 3, X);
+        traced("BEYOND leaves THE TRACE", bag, 21, 13);
         bag.become(2, 0);
         due.is("27 by less than 0", bag.voice(2, 3, X), -3);
         due.is("27 and cut", bag.voice(2, 3, 1), 0);
-        due.is("28 of the latest", bag.body(0), 13);
+        traced("of the latest", bag, 13);
         bag.become(2, 1);
         due.is("27 by -1", bag.voice(2, 3, Integer.MIN_VALUE), Integer.MIN_VALUE);
+        due.is("27 told no more", bag.told(6), 3);
     }
 
     private static void wraps() {
