@@ -61,6 +61,7 @@ public final class ImagesTest {
             due.is("35 KIND", bag.thingIs(1, 0), 1);
             due.is("35 m", bag.thingIs(1, 1), 3);
             due.is("35 WEIGHT", bag.thingIs(1, 2), 30);
+            due.is("35 SIZE", bag.thingIs(1, 3), 5);
             due.is("35 count(2)", bag.count(2), 5);
             due.is("35 SECONDS", bag.count(3), seconds);
             due.is("35 THE POCKET", bag.count(4), 3);
@@ -85,6 +86,24 @@ public final class ImagesTest {
         late.restore();
         due.is("35 no THINGS", late.thingIs(0, 0), Due.BEYOND);
         due.is("35 one anew", late.thing(8, 8, 8), 0);
+        late.image();
+        late.restore();
+        late.restore();
+        due.is("35 SIZE of one anew", late.thingIs(0, 3), 8);
+        BagBottom one = Due.plain(5);
+        one.image();
+        BagBottom other = new BagBottom();
+        due.is("35 each object has an IMAGE of its own", other.restore(), Due.NONE);
+        other.thing(1, 2, 3);
+        other.image();
+        other.thing(4, 5, 6);
+        other.thing(7, 8, 9);
+        other.restore();
+        due.is("35 a second one anew", other.thing(60, 50, 4), 1);
+        int[] want = {6, 0, 50, 4, 0, 50, 0};
+        for (int what = 0; what < want.length; what++) {
+            due.is("35 nothing of the one ahead is left, " + what, other.thingIs(1, what), want[what]);
+        }
     }
 
     private static void whatStays() {

@@ -8,7 +8,12 @@ public final class TextsTest {
         faults();
         untell();
         law();
+        held();
         signs();
+        oneOrZero();
+        eachByte();
+        open();
+        bytesOfAWord();
         due.end();
     }
 
@@ -115,6 +120,12 @@ public final class TextsTest {
         due.is("13 a TEXT", bag.untell(1), 1);
         due.is("13 no more", bag.untell(1), 0);
         due.is("13 as without", bag.law(1, 1, 2, 3), 3);
+        Due.text(bag, 0, "f");
+        Due.text(bag, 1, "n");
+        Due.feed(bag, "123");
+        due.is("13 one of two", bag.untell(0), 1);
+        due.is("13 THE TAPE stays", bag.count(5), 3);
+        due.is("13 the other TEXT stays", bag.law(1, 9, 2, 3), 9);
         due.is("13 use 2", bag.untell(2), Due.BEYOND);
         due.is("13 use -1", bag.untell(-1), Due.BEYOND);
     }
@@ -135,6 +146,19 @@ public final class TextsTest {
         Due.text(bag, 1, "n*100+k*10+m");
         due.is("14 names of USED", bag.law(1, 0, 4, 5), 45);
         due.is("14 n ahead", bag.law(1, 1, -5, 0), 50);
+    }
+
+    private static void held() {
+        int[][] held = {{-1000000, 0}, {-2, 0}, {-1, 0}, {0, 0}, {1, 1}, {98, 98}, {99, 99}, {100, 99}, {1000000, 99}};
+        for (int[] h : held) {
+            BagBottom bag = new BagBottom();
+            due.is("14 FELT of " + h[0] + " without a TEXT", bag.law(0, h[0], 0, 0), h[1]);
+            due.is("14 USED of " + h[0] + " without a TEXT", bag.law(1, 0, 0, h[0]), h[1]);
+            Due.text(bag, 0, "k");
+            Due.text(bag, 1, "n");
+            due.is("14 FELT of " + h[0], bag.law(0, 0, 0, h[0]), h[1]);
+            due.is("14 USED of " + h[0], bag.law(1, h[0], 0, 0), h[1]);
+        }
     }
 
     private static void signs() {
@@ -181,5 +205,123 @@ public final class TextsTest {
         BagBottom bag = new BagBottom();
         due.is("14 reads " + text, Due.text(bag, 0, text), 1);
         due.is("14 " + text + " of " + f + ", " + d, bag.law(0, f, d, 0), want);
+    }
+
+    /** What is told by true and false is 1 or 0 and no other number, whichever numbers are compared. */
+    private static void oneOrZero() {
+        int[] values = {Integer.MIN_VALUE, -2, -1, 0, 1, 2, Integer.MAX_VALUE};
+        for (int f : values) {
+            gives("5+!f", f, 0, f == 0 ? 6 : 5);
+            for (int d : values) {
+                gives("5+(f|d)", f, d, f == 0 && d == 0 ? 5 : 6);
+                gives("5+(f&d)", f, d, f == 0 || d == 0 ? 5 : 6);
+                gives("5+(f<d)", f, d, f < d ? 6 : 5);
+                gives("5+(f=d)", f, d, f == d ? 6 : 5);
+                gives("5+(f>d)", f, d, f > d ? 6 : 5);
+            }
+            gives("5+f/0", f, 0, 5);
+            gives("5+f%0", f, 0, 5);
+            gives("5+f/d", f, 0, 5);
+            gives("5+f%d", f, 0, 5);
+        }
+        gives("5+f/2", -7, 0, 2);
+        gives("5+f/(0-2)", -7, 0, 8);
+        gives("5+f%2", -7, 0, 4);
+        gives("5+f%(0-2)", -7, 0, 4);
+        gives("5+f%(0-2)", 7, 0, 6);
+    }
+
+    /** Behind what is read already each byte either goes on to a TEXT, or has the FAULT at its place. */
+    private static void eachByte() {
+        String signs = "|&<=>+-*/%";
+        String digits = "0123456789";
+        goOn("", digits + "fdk", "!(");
+        goOn("f", "", signs);
+        goOn("1", digits, signs);
+        goOn("123", digits, signs);
+        goOn("1234", "", signs);
+        goOn("f+", digits + "fdk", "!(");
+        goOn("f|", digits + "fdk", "!(");
+        goOn("f<", digits + "fdk", "!(");
+        goOn("!", digits + "fdk", "!(");
+        goOn("(", "", digits + "fdk!(");
+        goOn("(f", ")", signs);
+        goOn("(1", ")", signs + digits);
+        goOn("(f)", "", signs);
+        goOn("f<d", "", "|&+-*/%");
+        goOn("f=1", digits, "|&+-*/%");
+        goOn("(f<d", ")", "|&+-*/%");
+        goOn("(f<d)", "", signs);
+        goOn("f<d+k", "", "|&+-*/%");
+        goOn("f<d&k", "", signs);
+        goOn("f<d|k", "", signs);
+        goOn("!!!!!", digits + "fdk", "");
+        goOn("(((((", "", digits + "fdk");
+        goOn("!!!!", digits + "fdk", "!(");
+        BagBottom used = new BagBottom();
+        due.is("12 f is no NAME of USED", Due.text(used, 1, "m+f"), -12);
+        due.is("12 d neither", Due.text(used, 1, "n*d"), -12);
+        due.is("12 k is one of both", Due.text(used, 1, "k"), 1);
+    }
+
+    /** These bytes end a TEXT, those go on to one that ends too early, all others are none. */
+    private static void goOn(String ahead, String ending, String going) {
+        for (char c = 0; c < 256; c++) {
+            BagBottom bag = new BagBottom();
+            int got = Due.text(bag, 0, ahead + c);
+            int want = -10 - ahead.length();
+            if (ending.indexOf(c) >= 0) {
+                want = 1;
+            } else if (going.indexOf(c) >= 0) {
+                want--;
+            }
+            due.is("12 '" + ahead + "' and byte " + (int) c, got, want);
+        }
+    }
+
+    /** Each row of five of ! and ( is open at once at most; a sixth has the FAULT. */
+    private static void open() {
+        for (int row = 0; row < 64; row++) {
+            StringBuilder ahead = new StringBuilder();
+            StringBuilder behind = new StringBuilder();
+            for (int i = 0; i < 6; i++) {
+                if (i == 5) {
+                    String five = ahead + "f" + behind;
+                    due.is("12 " + five, Due.text(new BagBottom(), 0, five), 1);
+                }
+                boolean opens = (row >> i & 1) == 1;
+                ahead.append(opens ? '(' : '!');
+                behind.append(opens ? ")" : "");
+            }
+            String six = ahead + "f" + behind;
+            due.is("12 " + six, Due.text(new BagBottom(), 0, six), -15);
+        }
+        String[] closed = {
+            "!f+!!!!!d", "(f)+(((((d)))))", "!(f)*!!!!!(0)", "((((!f+!d))))", "(!f+((((d)))))", "!(!f&!(!!f|(((d)))))"
+        };
+        int[] want = {1, 1, -20, 1, 1, -18};
+        for (int i = 0; i < closed.length; i++) {
+            due.is("12 " + closed[i], Due.text(new BagBottom(), 0, closed[i]), want[i]);
+        }
+    }
+
+    /** The lowest byte first; those above the n lowest don't come. */
+    private static void bytesOfAWord() {
+        long word = 0x7c2b3938372b3635L;
+        String[] sums = {"5", "56", "56+", "56+7", "56+78", "56+789", "56+789+", "56+789+|"};
+        int[] want = {5, 56, -13, 63, 99, 99, -17, -17};
+        for (int n = 1; n <= 8; n++) {
+            BagBottom bag = new BagBottom();
+            due.is("11 " + sums[n - 1], bag.feed(word, n), n);
+            int answer = bag.text(0);
+            due.is("11 read: " + sums[n - 1], want[n - 1] < 0 ? answer : bag.law(0, 0, 0, 0), want[n - 1]);
+        }
+        BagBottom bag = new BagBottom();
+        due.is("11 eight times 255", bag.feed(-1L, 8), 8);
+        due.is("11 none of them is read", bag.text(0), -10);
+        due.is("11 the highest byte of a word below 0", bag.feed(0xe631313131313131L, 8), 8);
+        due.is("11 is no digit", bag.text(0), -14);
+        bag.feed(Long.MIN_VALUE, 7);
+        due.is("11 seven times 0", bag.text(1), -10);
     }
 }

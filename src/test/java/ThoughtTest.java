@@ -12,6 +12,7 @@ public final class ThoughtTest {
         out();
         odds();
         fits();
+        late();
         due.end();
     }
 
@@ -259,5 +260,47 @@ public final class ThoughtTest {
         BagBottom bag = new BagBottom();
         bag.sheet(0, 8, 0);
         return bag.fits(0);
+    }
+
+    /** Plain THINGS (C), TICKETS (T) and RINGS (R), from the top, that SINK so much or little more, after some STEPS. */
+    private static BagBottom after(int steps, String row) {
+        BagBottom bag = new BagBottom();
+        bag.walks(steps);
+        for (int i = row.length() - 2; i >= 0; i -= 3) {
+            int sinks = row.charAt(i + 1) - '0';
+            switch (row.charAt(i)) {
+                case 'T': bag.thing(50, 2 * sinks, 1); break;
+                case 'R': bag.thing(40, sinks, 1); break;
+                default: bag.thing(0, sinks, 1);
+            }
+        }
+        return bag;
+    }
+
+    /** The latest of all that long searches have found. */
+    private static void late() {
+        BagBottom bag = after(1, "R2 R4 T2 C3 R3 R3 R2 R1 C0");
+        due.is("22 nine are there", bag.count(0), 9);
+        due.is("22 settles late", bag.settles(), 19);
+        bag.walks(18);
+        due.is("22 one STEP ahead of it", bag.settles(), 1);
+        bag.walks(1);
+        due.is("22 now", bag.settles(), 0);
+        String order = Due.order(bag);
+        bag.walks(1);
+        due.order("22 a STEP more changes no places", bag, order);
+
+        String row = "T2 T2 C3 C3 C3 T2 T1 T2 R3";
+        BagBottom ahead = after(4, row);
+        BagBottom behind = after(4, row);
+        behind.walks(24);
+        ahead.sheet(0, 8, 9);
+        behind.sheet(0, 8, 9);
+        for (int place = 0; place < 9; place++) {
+            ahead.put(0, place, behind.at(place));
+            behind.put(0, place, ahead.at(place));
+        }
+        due.is("26 fits late", ahead.fits(0), 24);
+        due.is("26 never again", behind.fits(0), Due.NONE);
     }
 }
