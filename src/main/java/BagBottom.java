@@ -9,6 +9,8 @@ public final class BagBottom {
     private static final int PARTED = LOW - 6;
     private static final int ERRORS = 6;
 
+    // LANGUAGE.md lists the functions of Integer alone, not its constants.
+    private static final int INT_MOST = 2147483647;
     private static final int NOTHING = -1;
     private static final int IN_POCKET = -1;
     private static final int IS_OUT = -2;
@@ -309,7 +311,7 @@ public final class BagBottom {
         if (!isTimeAsked(s) || part < 0 || part > 1) {
             return failed(BEYOND);
         }
-        int all = thought.usedWithin(bag, Integer.MAX_VALUE);
+        int all = thought.usedWithin(bag, INT_MOST);
         if (all == 0) {
             return failed(STATE);
         }
@@ -1070,7 +1072,7 @@ public final class BagBottom {
                     start.add(number);
                 }
             }
-            int least = Integer.MAX_VALUE;
+            int least = INT_MOST;
             for (int turn = 0; turn < PACK_ROWS; turn++) {
                 int comesTo = costOfStart(bag, n);
                 if (comesTo < least) {

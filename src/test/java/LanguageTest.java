@@ -44,7 +44,8 @@ public final class LanguageTest {
         String[] none = {
             "\\bthrows?\\b", "\\btry\\b", "\\bcatch\\b", "\\bsynchronized\\b", "\\bassert\\b", "\\bimport\\b",
             "\\bpackage\\b", "->", "::", "\\bdouble\\b", "\\bfloat\\b", "\\bprotected\\b", "\\bstatic\\s*\\{",
-            "\\bSystem\\.(?!arraycopy)", "\\bequals\\b", "\\bhashCode\\b", "\\btoString\\b", "Exact\\b"
+            "\\bSystem\\.(?!arraycopy)", "\\b(?:Integer|Long|Math)\\.[^a-z]", "\\bequals\\b",
+            "\\bhashCode\\b", "\\btoString\\b", "Exact\\b"
         };
         for (String word : none) {
             due.is("how often " + word, Pattern.compile(word).matcher(program).results().count(), 0);
